@@ -83,6 +83,11 @@ final class Promise05Test {
         // A flip by a read is a set: it strikes coupled cells.
         run(check, 2, 1, "^(r0)", faults(7, 0, 0, 10, 1, 0), rows(0, 0, 1, 1));
         run(check, 2, 1, "^(r1)", faults(6, 0, 0, 10, 1, 0), rows());
+        run(check, 2, 1, "^(r0)", faults(7, 0, 0, 10, 1, 0, 12, 1, 0), rows());
+        // A cell that never rises can be flipped to 1, and be written 1 then.
+        run(check, 2, 1, "^(w1,r1)", faults(2, 1, 0, 10, 1, 0), rows());
+        // What counts for kind 9 is the value that was told, not what other faults made of it.
+        run(check, 1, 1, "^(w1,r1)", faults(2, 0, 0, 9, 0, 0), rows(0, 1, 0, 1));
         // What settles behind a word goes by the order of the faults, once each time.
         run(check, 2, 1, "^(r0)", faults(1, 1, 0, 12, 0, 1), rows(0, 0, 1, 1));
         run(check, 3, 1, "^(w1,r1)", faults(12, 0, 1, 1, 1, 0), rows(0, 1, 0, 1));

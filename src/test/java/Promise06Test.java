@@ -45,6 +45,9 @@ final class Promise06Test {
         check.due("ground 0", 0L, () -> x.covered(1, 0));
         x.ground(2);
         check.due("ground 2: word 1 is read as 0", 1L, () -> x.covered(1, 0));
+        MarchTests up = Check.marching(2, 1, "^(w0,r0)");
+        up.ground(2);
+        check.due("by order 0: word 0 reads the 0 of the start", 1L, () -> up.covered(4, 0));
         MarchTests y = Check.marching(2, 1, "^(w0);^(r0,w1)");
         y.fault(0, 0, 0);
         y.fault(8, 1, 0);

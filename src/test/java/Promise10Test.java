@@ -38,7 +38,7 @@ final class Promise10Test {
         none(check, "all", Spoiled.wholly(16, 4), 8, 3);
         way(check, "all", Spoiled.wholly(3, 4), 3, 8, "r0r1r2");
         way(check, "all", Spoiled.wholly(4, 4), 8, 8, "c0c1c2c3");
-        // A word that is wrong in two places and two words alone: the least row is word 0.
+        // Two ways with one row and one column each: the one with the lesser row.
         way(check, "rows by their numbers", Spoiled.memory(3, 2, 0, 21), 1, 1, "r0c1");
         way(check, "rows by their numbers", Spoiled.memory(3, 2, 1, 20), 1, 1, "r0c0");
     }
