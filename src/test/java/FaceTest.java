@@ -22,7 +22,7 @@ final class FaceTest {
     }
 
     public static void main(String[] args) {
-        Check check = new Check();
+        Check check = new Check("the public face");
         Class<?> c = MarchTests.class;
         check.due("the class is public and final", Modifier.PUBLIC | Modifier.FINAL, c::getModifiers);
         TreeSet<String> seen = new TreeSet<>();

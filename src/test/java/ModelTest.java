@@ -160,7 +160,7 @@ final class ModelTest {
     }
 
     public static void main(String[] args) {
-        Check check = new Check();
+        Check check = new Check("all promises, held against the model");
         for (int seed = 0; seed < RUNS; seed++) {
             new ModelTest(check, seed).calls();
         }

@@ -1,6 +1,6 @@
 /** A new object: words and bits are the nearest there can be; no faults, no march, ground 0, one port. */
 final class Promise01Test {
-    /** The number of cells, and of fuses, tells words and bits. */
+    /** The number of cells, of words and of fuses tells words and bits. */
     private static void size(Check check, int words, int bits, int dueWords, int dueBits) {
         String name = "new MarchTests(" + words + ", " + bits + ")";
         MarchTests x = Check.marching(words, bits, "^(w0,r0)");
@@ -14,28 +14,85 @@ final class Promise01Test {
         check.index(name + ": a fuse too far", () -> x.fuse(dueWords + dueBits));
     }
 
-    public static void main(String[] args) {
-        Check check = new Check();
-        size(check, 4, 2, 4, 2);
-        size(check, 1, 1, 1, 1);
-        size(check, 16, 4, 16, 4);
+    private static void asManyAsThereCanBe(Check check) {
+        check.terms("16) of BITS (1 .. 4)");
+        for (int words = 1; words <= 16; words++) {
+            for (int bits = 1; bits <= 4; bits++) {
+                size(check, words, bits, words, bits);
+            }
+        }
+    }
+
+    private static void tooSmall(Check check) {
+        check.sentence("Words and bits (the nearest there can be)");
+        size(check, 0, 2, 1, 2);
+        size(check, -1, 2, 1, 2);
+        size(check, Integer.MIN_VALUE, 2, 1, 2);
+        size(check, 2, 0, 2, 1);
+        size(check, 2, -1, 2, 1);
+        size(check, 2, Integer.MIN_VALUE, 2, 1);
         size(check, 0, 0, 1, 1);
+    }
+
+    private static void tooLarge(Check check) {
+        check.sentence("Words and bits (the nearest there can be)");
+        size(check, 17, 2, 16, 2);
+        size(check, Integer.MAX_VALUE, 2, 16, 2);
+        size(check, 2, 5, 2, 4);
+        size(check, 2, Integer.MAX_VALUE, 2, 4);
         size(check, 17, 5, 16, 4);
         size(check, Integer.MIN_VALUE, Integer.MAX_VALUE, 1, 4);
         size(check, Integer.MAX_VALUE, Integer.MIN_VALUE, 16, 1);
+    }
+
+    private static void noFaults(Check check) {
+        check.sentence("no faults");
+        MarchTests x = Check.marching(2, 2, "^(r0,w1,r1,w0,r0)d*(r0)");
+        check.due("a sound memory", 0, () -> x.run(0));
+        check.due("the first fault", 1, () -> x.fault(0, 0, 0));
+    }
+
+    private static void noMarch(Check check) {
+        check.sentence("no march");
         MarchTests x = new MarchTests(2, 2);
+        check.state("run(0)", () -> x.run(0));
+        check.state("machine(0)", () -> x.machine(0));
+        check.state("covered(0, 0)", () -> x.covered(0, 0));
+        check.state("covered(0, 1)", () -> x.covered(0, 1));
         check.due("the tape is empty", -1, x::read);
-        check.state("no march: run(0)", () -> x.run(0));
-        check.state("no march: machine(0)", () -> x.machine(0));
-        check.state("no march: covered(0, 0)", () -> x.covered(0, 0));
-        check.due("nothing failed", 0, () -> x.failing(0, 4));
-        check.index("nothing failed", () -> x.failing(0, 0));
-        check.due("nothing proved", false, x::proved);
-        check.index("no spare", () -> x.spare(0, 0));
-        check.due("no fuse", 0, () -> x.fuse(0));
-        check.due("ground 0", false, () -> x.ground(0));
-        check.due("one port", 1, () -> x.port(1));
-        check.due("no faults", 1, () -> x.fault(0, 0, 0));
+        check.state("run(0) still", () -> x.run(0));
+    }
+
+    private static void groundAndPort(Check check) {
+        check.sentence("ground 0");
+        check.due("ground(0) is no other one", false, () -> new MarchTests(2, 2).ground(0));
+        check.due("ground(1) is", true, () -> new MarchTests(2, 2).ground(1));
+        MarchTests x = Check.marching(2, 2, "^(r0)");
+        check.due("0 is 0 everywhere", 0, () -> x.run(0));
+        check.sentence("one port");
+        check.due("there was one", 1, () -> new MarchTests(2, 2).port(1));
+        MarchTests y = Check.marching(2, 1, "^(r0)");
+        y.fault(7, 1, 0);
+        check.due("nothing is read twice", 0, () -> y.run(0));
+    }
+
+    private static void nothingYet(Check check) {
+        check.terms("FAILING are operations that failed in the latest run");
+        MarchTests x = new MarchTests(2, 2);
+        check.due("before the first run", 0, () -> x.failing(0, 4));
+        check.index("before the first run", () -> x.failing(0, 0));
+        check.due("nothing is repaired", 0, () -> x.repair(0, 0, 0));
+    }
+
+    public static void main(String[] args) {
+        Check check = new Check("promise 1 (a new object)");
+        asManyAsThereCanBe(check);
+        tooSmall(check);
+        tooLarge(check);
+        noFaults(check);
+        noMarch(check);
+        groundAndPort(check);
+        nothingYet(check);
         check.finish();
     }
 }

@@ -1,25 +1,51 @@
 /** unit: one byte more on the tape, the lowest eight bits, with room for 400. */
 final class Promise02Test {
-    public static void main(String[] args) {
-        Check check = new Check();
+    private static void lowestEightBits(Check check) {
+        check.sentence("One byte more on the tape (the lowest eight bits)");
+        int[] far = {0, 256, -256, 512, Integer.MIN_VALUE, Integer.MAX_VALUE - 255, 0x5a5a5a00, -65536};
+        for (int more : far) {
+            MarchTests x = new MarchTests(1, 1);
+            check.due("unit('d' and " + more + ")", true, () -> x.unit('d' + more));
+            check.due("a pause", 1, x::read);
+        }
+        // 255 and -1 are one byte, and no sign comes of it.
+        for (int unit : new int[] {-1, 255, 128, -128, 0, Integer.MAX_VALUE, Integer.MIN_VALUE}) {
+            MarchTests x = new MarchTests(1, 1);
+            x.unit('d');
+            check.due("unit(" + unit + ")", true, () -> x.unit(unit));
+            check.due("no byte of a text", -2, x::read);
+        }
+    }
+
+    private static void roomFor400(Check check) {
+        check.sentence("whether there was room (for 400)");
         MarchTests x = new MarchTests(1, 1);
-        check.due("256 and more fall away", true, () -> x.unit('d' + 256));
-        check.due("below 0 too", true, () -> x.unit('d' - 256));
-        check.due("and far away", true, () -> x.unit(Integer.MIN_VALUE + 'd'));
-        check.due("three pauses", 3, x::read);
-        for (int i = 0; i < 400; i++) {
+        for (int i = 0; i < 399; i++) {
             check.due("unit " + i, true, () -> x.unit(' '));
         }
-        check.due("the 401st", false, () -> x.unit('d'));
+        check.due("the 400th", true, () -> x.unit('d'));
+        check.due("the 401st", false, () -> x.unit('x'));
         check.due("the 402nd", false, () -> x.unit('d'));
+        check.due("what had no room is not there", 1, x::read);
+        check.due("room again", true, () -> x.unit('d'));
+        check.due("a pause", 1, x::read);
+    }
+
+    private static void roomBehindAFault(Check check) {
+        check.sentence("whether there was room (for 400)");
+        MarchTests x = new MarchTests(1, 1);
+        Check.tell(x, " ".repeat(400));
+        check.due("full", false, () -> x.unit('d'));
         check.due("400 blanks end at 400", -401, x::read);
         check.due("room again", true, () -> x.unit('d'));
         check.due("a pause", 1, x::read);
-        for (int i = 0; i < 399; i++) {
-            x.unit(13);
-        }
-        check.due("the 400th", true, () -> x.unit('d'));
-        check.due("a pause at the end", 1, x::read);
+    }
+
+    public static void main(String[] args) {
+        Check check = new Check("promise 2 (unit)");
+        lowestEightBits(check);
+        roomFor400(check);
+        roomBehindAFault(check);
         check.finish();
     }
 }

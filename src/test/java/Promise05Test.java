@@ -1,154 +1,161 @@
-/** run: each kind of fault as the document tells it, orders, and what it throws. */
+/** run: the ways that a march goes, what it answers and what it throws. */
 final class Promise05Test {
-    /** Faults are three numbers each; due are the failing operations as element, number, word, bits. */
-    private static void run(Check check, int words, int bits, String text, int[][] faults, int[][] want) {
-        MarchTests x = Check.marching(words, bits, text);
-        String name = text;
-        for (int[] f : faults) {
-            x.fault(f[0], f[1], f[2]);
-            name += " with " + f[0] + " " + f[1] + " " + f[2];
+    private static final String STATE = "IllegalStateException";
+    private static final String ARGUMENT = "IllegalArgumentException";
+    private static final int[] BITS_ROUND = {0, 8, 4, 12, 2, 10, 6, 14, 1, 9, 5, 13, 3, 11, 7, 15};
+
+    /** The words that an always failing r tells, in the order it comes to them. */
+    private static String walk(MarchTests x, int order) {
+        StringBuilder words = new StringBuilder();
+        x.run(order);
+        for (int k = 0; k < x.failing(0, 4); k++) {
+            words.append(x.failing(k, 2)).append(' ');
         }
-        check.due(name + ": run(0)", want.length > 0 ? 1 : 0, () -> x.run(0));
-        check.failings(name, x, want);
+        return words.toString();
     }
 
-    private static int[][] rows(int... numbers) {
-        int[][] rows = new int[numbers.length / 4][];
-        for (int i = 0; i < rows.length; i++) {
-            rows[i] = java.util.Arrays.copyOfRange(numbers, 4 * i, 4 * i + 4);
+    private static String upAndDown(int[] words) {
+        StringBuilder text = new StringBuilder();
+        for (int word : words) {
+            text.append(word).append(' ');
         }
-        return rows;
-    }
-
-    private static int[][] faults(int... numbers) {
-        int[][] faults = new int[numbers.length / 3][];
-        for (int i = 0; i < faults.length; i++) {
-            faults[i] = java.util.Arrays.copyOfRange(numbers, 3 * i, 3 * i + 3);
+        for (int i = words.length - 1; i >= 0; i--) {
+            text.append(words[i]).append(' ');
         }
-        return faults;
+        return text.toString();
     }
 
-    private static void ofOneCell(Check check) {
-        run(check, 2, 2, "^(w1,r1,w0,r0)", faults(), rows());
-        run(check, 2, 2, "^(r0,r1)", faults(), rows(0, 1, 0, 3, 0, 1, 1, 3));
-        run(check, 2, 2, "^(w1,r1,w0,r0)", faults(0, 3, 0), rows(0, 1, 1, 2));
-        run(check, 2, 2, "^(w1,r1,w0,r0)", faults(1, 0, 0), rows(0, 3, 0, 1));
-        run(check, 2, 2, "^(r0)", faults(1, 2, 0), rows(0, 0, 1, 1));
-        run(check, 2, 2, "^(w1,r1,w0,r0)", faults(2, 1, 0), rows(0, 1, 0, 2));
-        run(check, 2, 2, "^(w0,r0,w1,r1,w0,r0)", faults(3, 1, 0), rows(0, 5, 0, 2));
-        run(check, 1, 2, "^(w1,r1,w0,r0)", faults(4, 1, 0), rows(0, 1, 0, 2));
-        run(check, 2, 1, "^(w1);^(r1)", faults(4, 1, 0), rows());
-        run(check, 2, 1, "^(w1);v(r1)", faults(4, 1, 0), rows(1, 0, 1, 1));
-        run(check, 1, 2, "^(w1,r1);d^(r1,w1,r1)", faults(5, 0, 0), rows(2, 0, 0, 1));
-        run(check, 1, 2, "^(w0,r0,r0,r0)", faults(6, 1, 0), rows(0, 1, 0, 2, 0, 3, 0, 2));
-        run(check, 1, 2, "^(w0,r0,r0,r0)", faults(7, 1, 0), rows(0, 2, 0, 2));
-        run(check, 1, 2, "^(w0,r0,w1,r1)", faults(8, 0, 0), rows(0, 1, 0, 1, 0, 3, 0, 1));
-        run(check, 1, 2, "^(w1,r1,w1,r1,w1,r1)", faults(9, 0, 0), rows(0, 3, 0, 1));
-        run(check, 1, 1, "^(w0,r1)", faults(9, 0, 0), rows());
-    }
-
-    private static void ofTwoCells(Check check) {
-        run(check, 2, 1, "^(w0);^(r0,w1)", faults(10, 1, 0), rows(1, 0, 1, 1));
-        run(check, 2, 1, "^(w1);^(r1,w0)", faults(10, 0, 1), rows(1, 0, 0, 1));
-        run(check, 2, 1, "^(w1);^(r1,w1)", faults(10, 1, 0), rows());
-        run(check, 2, 1, "^(w1);^(r1,w0)", faults(11, 1, 0), rows(1, 0, 1, 1));
-        run(check, 2, 1, "^(w0);^(r0,w1)", faults(11, 1, 0), rows());
-        run(check, 1, 2, "^(w1,r1)", faults(10, 1, 0), rows());
-        run(check, 1, 2, "^(w1,r1)", faults(10, 0, 1), rows(0, 1, 0, 1));
-        run(check, 2, 1, "^(w1);^(r1)", faults(12, 0, 1), rows(1, 0, 0, 1));
-        run(check, 2, 1, "^(w0);^(r0)", faults(12, 0, 1), rows());
-        run(check, 1, 2, "^(w1,r1)", faults(12, 0, 1), rows(0, 1, 0, 1));
-        run(check, 2, 1, "^(w0);^(w1,r1)", faults(13, 0, 1), rows(1, 1, 0, 1));
-        run(check, 2, 1, "^(w0);^(w1,r1)", faults(13, 1, 0), rows(1, 1, 0, 1));
-        run(check, 2, 1, "^(w0);v(w1,r1)", faults(13, 0, 1), rows(1, 1, 1, 1));
-        run(check, 2, 1, "^(w1);^(w0,r0)", faults(13, 0, 1), rows());
-    }
-
-    private static void ofSeveralFaults(Check check) {
-        // A chain ends behind its first link.
-        run(check, 3, 1, "^(w0);^(r0,w1)", faults(10, 1, 0, 10, 2, 1), rows(1, 0, 1, 1));
-        run(check, 3, 1, "^(w0,w1);v(r1)", faults(10, 0, 2, 11, 1, 0), rows(1, 0, 0, 1));
-        // In their order: the latest one that strikes a write tells.
-        run(check, 1, 1, "^(w1,r1)", faults(0, 0, 0, 1, 0, 0), rows());
-        run(check, 1, 1, "^(w1,r1)", faults(1, 0, 0, 0, 0, 0), rows(0, 1, 0, 1));
-        run(check, 1, 1, "^(r1)", faults(8, 0, 0, 4, 0, 0), rows(0, 0, 0, 1));
-        run(check, 1, 1, "^(r1)", faults(4, 0, 0, 8, 0, 0), rows());
-        run(check, 1, 1, "^(r1,r0,r1)", faults(4, 0, 0, 8, 0, 0), rows());
-        run(check, 1, 1, "^(r0,r0)", faults(6, 0, 0, 6, 0, 0), rows());
-        run(check, 1, 1, "^(r1)", faults(6, 0, 0, 7, 0, 0), rows());
-        run(check, 1, 1, "^(r0)", faults(7, 0, 0, 6, 0, 0), rows());
-        run(check, 1, 2, "^(w1,r1)", faults(13, 0, 1, 8, 0, 0), rows(0, 1, 0, 1));
-        run(check, 1, 2, "^(w0,r0)", faults(13, 0, 1, 8, 0, 0), rows(0, 1, 0, 1));
-        run(check, 1, 2, "^(w0,r0)", faults(8, 0, 0, 13, 0, 1), rows());
-        // A flip by a read is a set: it strikes coupled cells.
-        run(check, 2, 1, "^(r0)", faults(7, 0, 0, 10, 1, 0), rows(0, 0, 1, 1));
-        run(check, 2, 1, "^(r1)", faults(6, 0, 0, 10, 1, 0), rows());
-        run(check, 2, 1, "^(r0)", faults(7, 0, 0, 10, 1, 0, 12, 1, 0), rows());
-        // A cell that never rises can be flipped to 1, and be written 1 then.
-        run(check, 2, 1, "^(w1,r1)", faults(2, 1, 0, 10, 1, 0), rows());
-        // What counts for kind 9 is the value that was told, not what other faults made of it.
-        run(check, 1, 1, "^(w1,r1)", faults(2, 0, 0, 9, 0, 0), rows(0, 1, 0, 1));
-        // What settles behind a word goes by the order of the faults, once each time.
-        run(check, 2, 1, "^(r0)", faults(1, 1, 0, 12, 0, 1), rows(0, 0, 1, 1));
-        run(check, 3, 1, "^(w1,r1)", faults(12, 0, 1, 1, 1, 0), rows(0, 1, 0, 1));
-        // Behind a pause, too; the cell that fades is stuck again then.
-        run(check, 1, 1, "d^(r1)", faults(5, 0, 0, 1, 0, 0), rows());
-        run(check, 2, 1, "*(w1)d;^(r0)", faults(12, 0, 1, 5, 1, 0), rows());
-        run(check, 2, 1, "^(w1)d^(r1)", faults(5, 0, 0, 5, 1, 0), rows(2, 0, 0, 1, 2, 0, 1, 1));
-    }
-
-    private static void again(Check check) {
-        MarchTests x = Check.marching(1, 1, "^(r0,r1)");
-        x.fault(4, 0, 0);
-        check.due("the latest read is 0 at first", 1, () -> x.run(0));
-        check.failings("a first run", x, rows(0, 1, 0, 1));
-        Check.read(x, "^(w1,r0)");
-        check.due("in each run", 0, () -> x.run(0));
-        check.due("what failed before is forgotten", 0, () -> x.failing(0, 4));
-        MarchTests y = Check.marching(1, 1, "^(r0,w1)");
-        check.due("all cells have 0", 0, () -> y.run(0));
-        check.due("in each run", 0, () -> y.run(1));
+    private static int[] wordsByOrder(int order, int words) {
+        return java.util.stream.IntStream.range(0, 16)
+            .map(place -> order == 0 ? place : order == 1 ? BITS_ROUND[place] : words - 1 - place)
+            .filter(word -> word >= 0 && word < words).toArray();
     }
 
     private static void orders(Check check) {
-        int[][] byBits = {{0}, {0, 1}, {0, 2, 1}, {0, 2, 1, 3}, {0, 4, 2, 1, 3}, {0, 8, 4, 2, 10, 6, 1, 9, 5, 3, 7}};
-        for (int[] due : byBits) {
-            MarchTests x = Check.marching(due.length, 1, "^(r1);v(r1)");
-            for (int order = 0; order < 3; order++) {
-                int o = order;
-                check.due(due.length + " words: run(" + o + ")", 1, () -> x.run(o));
-                for (int i = 0; i < due.length; i++) {
-                    int place = i;
-                    int last = 2 * due.length - 1;
-                    int word = order == 0 ? i : order == 1 ? due[i] : due.length - 1 - i;
-                    check.due("order " + o + ", place " + i + " up", word, () -> x.failing(place, 2));
-                    check.due("order " + o + ", place " + i + " down", word, () -> x.failing(last - place, 2));
-                }
+        String[] told = {
+            "By order 0 that is the place",
+            "by order 1 the place with its bits the other way round (4 bits; those that are no word are left out,"
+                + " in the order of the places 0 .. 15)",
+            "by order 2 all places from the highest down"
+        };
+        for (int o = 0; o < 3; o++) {
+            int order = o;
+            check.terms(told[order]);
+            for (int words = 1; words <= 16; words++) {
+                MarchTests x = Check.marching(words, 1, "^(r1);v(r1)");
+                String due = upAndDown(wordsByOrder(order, words));
+                check.due(words + " words by order " + order, due, () -> walk(x, order));
             }
         }
-        MarchTests x = new MarchTests(2, 1);
-        check.state("no march before no order", () -> x.run(3));
+        MarchTests three = Check.marching(3, 1, "^(r1)");
+        check.terms("those that are no word are left out");
+        check.due("three words", "0 2 1 ", () -> walk(three, 1));
+        MarchTests nine = Check.marching(9, 1, "^(r1)");
+        check.due("nine words", "0 8 4 2 6 1 5 3 7 ", () -> walk(nine, 1));
+    }
+
+    private static void directions(Check check) {
+        check.terms("each element goes over all PLACES, up from 0, or down, and does its operations at each");
+        MarchTests x = Check.marching(3, 1, "^(r1,r1)");
+        check.due("up", "0 0 1 1 2 2 ", () -> walk(x, 0));
+        Check.read(x, "v(r1,r1)");
+        check.due("down", "2 2 1 1 0 0 ", () -> walk(x, 0));
         Check.read(x, "*(r1)");
-        check.due("either is up", 1, () -> x.run(0));
-        check.argument("order 3", () -> x.run(3));
-        check.argument("order -1", () -> x.run(-1));
-        check.argument("an order far away", () -> x.run(Integer.MIN_VALUE));
-        check.failings("a run that throws forgets nothing", x, rows(0, 0, 0, 1, 0, 0, 1, 1));
+        check.due("either is up", "0 1 2 ", () -> walk(x, 0));
+        check.due("either is up by order 2", "2 1 0 ", () -> walk(x, 2));
+        MarchTests one = Check.marching(1, 1, "^(r1)v(r1)*(r1)");
+        check.due("one place", "0 0 0 ", () -> walk(one, 0));
+        check.run(2, 1, "^(w1,r1,w0,r0)v(r0,w1)^(r1)", Check.faults(), Check.rows());
+    }
+
+    private static void someBits(Check check) {
+        check.terms("An operation r that reads another thing than it tells, at some bits, FAILS.");
+        for (int bit = 0; bit < 4; bit++) {
+            check.run(1, 4, "^(r0)", Check.faults(8, bit, 0), Check.rows(0, 0, 0, 1 << bit));
+        }
+        check.run(1, 4, "^(r1)", Check.faults(8, 1, 0), Check.rows(0, 0, 0, 13));
+        check.run(1, 4, "^(r1)", Check.faults(), Check.rows(0, 0, 0, 15));
+        check.run(1, 4, "^(r1)", Check.faults(8, 0, 0, 8, 1, 0, 8, 2, 0, 8, 3, 0), Check.rows());
+        check.run(1, 4, "^(w1)", Check.faults(0, 0, 0), Check.rows());
+    }
+
+    private static void oneOrNone(Check check) {
+        check.sentence("1 if an operation failed, else 0");
+        MarchTests x = Check.marching(4, 2, "^(w0);^(r0)");
+        check.due("none failed", 0, () -> x.run(0));
+        x.fault(1, 7, 0);
+        check.due("the last one alone failed", 1, () -> x.run(0));
+        Check.read(x, "^(r1)");
+        check.due("several failed", 1, () -> x.run(0));
+        Check.read(x, "d");
+        check.due("a pause cannot fail", 0, () -> x.run(0));
+        Check.read(x, "^(w0)");
+        check.due("nor can what only writes", 0, () -> x.run(0));
+    }
+
+    private static void forgotten(Check check) {
+        check.sentence("what failed before is forgotten");
+        MarchTests x = Check.marching(2, 1, "^(r1)");
+        x.run(0);
+        check.due("two failed", 2, () -> x.failing(0, 4));
+        check.due("another run", 1, () -> x.run(2));
+        check.failings("only its own", x, Check.rows(0, 0, 1, 1, 0, 0, 0, 1));
+        Check.read(x, "^(w0,r0)");
+        check.due("another march does not forget", 2, () -> x.failing(0, 4));
+        check.due("its run", 0, () -> x.run(0));
+        check.due("nothing of it is left", 0, () -> x.failing(0, 4));
+        check.index("nothing of it is left", () -> x.failing(0, 0));
+        check.due("nor is it repaired", 0, () -> x.repair(0, 0, 0));
+    }
+
+    private static void repairStays(Check check) {
+        check.sentence("repair() stays as it was told");
+        MarchTests x = Check.marching(2, 1, "*(r1)");
+        x.run(0);
         check.due("repair", 1, () -> x.repair(8, 8, 9));
         Check.read(x, "*(r0)");
-        check.due("a run", 0, () -> x.run(0));
-        check.due("repair stays as it was told", 1, () -> x.spare(0, 0));
-        check.due("repair stays as it was told", 1, () -> x.fuse(2));
-        check.due("repair stays as it was told", true, x::proved);
+        check.due("nothing fails now", 0, () -> x.run(0));
+        check.due("its spare", 1, () -> x.spare(0, 0));
+        check.due("its fuse", 1, () -> x.fuse(2));
+        check.due("it is proved", true, x::proved);
+        Check.read(x, "*(r1)");
+        x.run(0);
+        check.due("too few steps", -2, () -> x.repair(8, 8, 1));
+        Check.read(x, "*(r0)");
+        x.run(0);
+        check.due("it is not proved", false, x::proved);
+        check.index("it has no spare", () -> x.spare(0, 0));
+    }
+
+    private static void thrown(Check check) {
+        check.sentence("IllegalArgumentException: there is no such order");
+        MarchTests x = Check.marching(2, 1, "^(r1)");
+        for (int order : new int[] {3, 4, -1, -2, Integer.MIN_VALUE, Integer.MAX_VALUE}) {
+            check.argument("run(" + order + ")", () -> x.run(order));
+        }
+        check.terms("the one named first when several would do");
+        check.state("no march before no order", () -> new MarchTests(2, 1).run(3));
+        check.state("no march before no order", () -> new MarchTests(2, 1).run(-1));
+        check.terms("IllegalStateException: no march was read");
+        for (int o = 0; o < 3; o++) {
+            int order = o;
+            check.state("run(" + order + ")", () -> new MarchTests(2, 1).run(order));
+        }
+        check.terms("A call that throws changes nothing.");
+        Twin.changesNothing(check, "run(3)", ARGUMENT, y -> y.run(3));
+        Twin.changesNothing(check, "run(-1)", ARGUMENT, y -> y.run(-1));
+        Twin.changesNothingWithoutMarch(check, "run(0)", STATE, y -> y.run(0));
     }
 
     public static void main(String[] args) {
-        Check check = new Check();
-        ofOneCell(check);
-        ofTwoCells(check);
-        ofSeveralFaults(check);
-        again(check);
+        Check check = new Check("promise 5 (run)");
         orders(check);
+        directions(check);
+        someBits(check);
+        oneOrNone(check);
+        forgotten(check);
+        repairStays(check);
+        thrown(check);
         check.finish();
     }
 }

@@ -1,46 +1,107 @@
 /** ground: which value is 0 in each bit. */
 final class Promise15Test {
-    /** All cells have 0 before the march: what r0 and r1 find wrong tells the ground. */
-    private static void ground(Check check, int kind, int... want) {
-        MarchTests x = Check.marching(4, 4, "^(r0,r1)");
-        check.due("ground(" + kind + ")", kind != 0, () -> x.ground(kind));
-        check.due("ground(" + kind + ") again", false, () -> x.ground(kind));
+    private static final String ARGUMENT = "IllegalArgumentException";
+
+    /** All cells have 0 before the march: what r0 finds wrong is the ground's 0. */
+    private static void ground(Check check, int kind, int evenWords, int oddWords) {
+        MarchTests x = Check.marching(16, 4, "^(r0)");
+        x.ground(kind);
         x.run(0);
         int k = 0;
-        for (int word = 0; word < 4; word++) {
-            for (int value = 0; value < 2; value++) {
-                int wrong = value == 0 ? want[word] : 15 - want[word];
-                if (wrong != 0) {
-                    int row = k;
-                    check.due("ground " + kind + ", word " + word + ", r" + value, wrong, () -> x.failing(row, 3));
-                    check.due("ground " + kind + ": its word", word, () -> x.failing(row, 2));
-                    k++;
-                }
+        for (int word = 0; word < 16; word++) {
+            int wrong = word % 2 == 0 ? evenWords : oddWords;
+            if (wrong != 0) {
+                int row = k;
+                check.due("ground " + kind + ": the word", word, () -> x.failing(row, 2));
+                check.due("ground " + kind + ", word " + word, wrong, () -> x.failing(row, 3));
+                k++;
             }
         }
-        Check.read(x, "^(w0,r0,w1,r1)v(r1,w0,r0)");
-        check.due("ground " + kind + " in a sound memory", 0, () -> x.run(0));
+        int count = k;
+        check.due("ground " + kind + ": no more", count, () -> x.failing(0, 4));
+        MarchTests one = Check.marching(1, 1, "^(r0)");
+        one.ground(kind);
+        check.due("ground " + kind + ": the only cell", 0, () -> one.run(0));
+    }
+
+    private static void otherOne(Check check) {
+        check.terms("THE GROUND tells for each bit which value is 0 (and 1 the other one)");
+        for (int k = 0; k < 4; k++) {
+            int kind = k;
+            MarchTests x = Check.marching(4, 4, "^(w0,r0,w1,r1)v(r1,w0,r0)");
+            x.ground(kind);
+            check.due("a sound memory on ground " + kind, 0, () -> x.run(0));
+            Check.read(x, "^(w0,r1)");
+            check.due("r1 behind w0 on ground " + kind, 1, () -> x.run(0));
+            check.due("all bits are wrong", 15, () -> x.failing(1, 3));
+        }
+    }
+
+    private static void kinds(Check check) {
+        check.terms("ground 0 always 0");
+        ground(check, 0, 0, 0);
+        check.terms("1 the bit's and the word's number together modulo 2");
+        ground(check, 1, 10, 5);
+        check.terms("2 the word's number modulo 2");
+        ground(check, 2, 0, 15);
+        check.terms("3 the bit's number modulo 2");
+        ground(check, 3, 10, 10);
+    }
+
+    private static void wordsNumber(Check check) {
+        check.terms("2 the word's number modulo 2");
+        MarchTests x = Check.marching(2, 1, "^(w0,r0)");
+        x.fault(0, 1, 0);
+        x.ground(2);
+        check.due("word 1 is told 1", 1, () -> x.run(0));
+        check.due("word 1", 1, () -> x.failing(0, 2));
+        check.due("by order 2", 1, () -> x.run(2));
+        check.due("word 1", 1, () -> x.failing(0, 2));
+        x.scramble(0, 1);
+        check.due("scrambled: not the place's number", 1, () -> x.run(0));
+        check.due("word 1", 1, () -> x.failing(0, 2));
+    }
+
+    private static void anotherOne(Check check) {
+        check.sentence("The ground from now on: whether it is another one");
+        MarchTests x = new MarchTests(2, 1);
+        int before = 0;
+        for (int kind : new int[] {0, 0, 1, 1, 2, 3, 3, 0, 2, 1, 0}) {
+            boolean another = kind != before;
+            check.due("ground(" + kind + ") behind " + before, another, () -> x.ground(kind));
+            before = kind;
+        }
+        MarchTests y = Check.marching(2, 1, "^(r0)");
+        check.due("ground 0", 0, () -> y.run(0));
+        y.ground(2);
+        check.due("what failed stays", 0, () -> y.failing(0, 4));
+        check.due("ground 2 from now on", 1, () -> y.run(0));
+        y.ground(0);
+        check.due("ground 0 from now on", 0, () -> y.run(0));
+    }
+
+    private static void thrown(Check check) {
+        check.sentence("IllegalArgumentException: it is not 0 .. 3");
+        MarchTests x = new MarchTests(2, 1);
+        for (int kind : new int[] {4, 5, -1, Integer.MIN_VALUE, Integer.MAX_VALUE}) {
+            check.argument("ground(" + kind + ")", () -> x.ground(kind));
+        }
+        check.due("ground 0 still", false, () -> x.ground(0));
+        check.due("ground 3", true, () -> x.ground(3));
+        check.argument("ground(4)", () -> x.ground(4));
+        check.due("ground 3 still", false, () -> x.ground(3));
+        check.terms("A call that throws changes nothing.");
+        Twin.changesNothing(check, "ground(4)", ARGUMENT, y -> y.ground(4));
+        Twin.changesNothing(check, "ground(-1)", ARGUMENT, y -> y.ground(-1));
     }
 
     public static void main(String[] args) {
-        Check check = new Check();
-        ground(check, 0, 0, 0, 0, 0);
-        ground(check, 1, 10, 5, 10, 5);
-        ground(check, 2, 0, 15, 0, 15);
-        ground(check, 3, 10, 10, 10, 10);
-        MarchTests x = Check.marching(2, 1, "^(w0,r0)");
-        x.fault(0, 1, 0);
-        check.due("stuck at 0 on ground 0", 0, () -> x.run(0));
-        check.due("another one", true, () -> x.ground(2));
-        check.due("stuck at 0 on ground 2", 1, () -> x.run(0));
-        check.argument("ground 4", () -> x.ground(4));
-        check.argument("ground -1", () -> x.ground(-1));
-        check.argument("a ground far away", () -> x.ground(Integer.MIN_VALUE));
-        check.due("what throws changes nothing", false, () -> x.ground(2));
-        x.scramble(0, 1);
-        check.due("the word's number, not the place's", 1, () -> x.run(0));
-        check.due("back", true, () -> x.ground(0));
-        check.due("stuck at 0 on ground 0", 0, () -> x.run(0));
+        Check check = new Check("promise 15 (ground)");
+        otherOne(check);
+        kinds(check);
+        wordsNumber(check);
+        anotherOne(check);
+        thrown(check);
         check.finish();
     }
 }
