@@ -10,8 +10,23 @@ final class Check {
         Object answer();
     }
 
+    interface Test {
+        void hold(Check check);
+    }
+
     Check(String about) {
         this.about = about;
+    }
+
+    /** One test of several: what it throws is wrong, but does not keep the next ones from being looked at. */
+    void hold(Test test) {
+        sentence = "";
+        try {
+            test.hold(this);
+        } catch (RuntimeException | AssertionError e) {
+            wrong++;
+            System.out.println(about + sentence + ": a call before the next one that is looked at answered " + e);
+        }
     }
 
     /** From here on, answers are held against these words of the document's part that the test is about. */

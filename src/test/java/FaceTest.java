@@ -7,9 +7,17 @@ import java.util.TreeSet;
 /** The class has the document's face, and nothing else that is not private. */
 final class FaceTest {
     private static final String[] METHODS = {
-        "boolean unit(int)", "int read()", "int fault(int,int,int)", "int run(int)", "long covered(int,int)",
-        "int machine(int)", "boolean scramble(int,int)", "int failing(int,int)", "int repair(int,int,long)",
-        "int spare(int,int)", "boolean proved()", "int fuse(int)", "int port(int)", "boolean ground(int)"
+        "boolean unit(int)", "int read()",
+        "int fault(int,int,int) throws IndexOutOfBoundsException IllegalStateException IllegalArgumentException",
+        "int run(int) throws IllegalStateException IllegalArgumentException",
+        "long covered(int,int) throws IllegalStateException IllegalArgumentException",
+        "int machine(int) throws IllegalStateException IndexOutOfBoundsException",
+        "boolean scramble(int,int) throws IndexOutOfBoundsException",
+        "int failing(int,int) throws IndexOutOfBoundsException",
+        "int repair(int,int,long) throws IllegalArgumentException",
+        "int spare(int,int) throws IndexOutOfBoundsException", "boolean proved()",
+        "int fuse(int) throws IndexOutOfBoundsException", "int port(int) throws IllegalArgumentException",
+        "boolean ground(int) throws IllegalArgumentException"
     };
 
     private static String told(Method m) {
@@ -18,12 +26,18 @@ final class FaceTest {
         for (int i = 0; i < types.length; i++) {
             text.append(i > 0 ? "," : "").append(types[i]);
         }
-        return text.append(")").toString();
+        text.append(")");
+        Class<?>[] thrown = m.getExceptionTypes();
+        for (int i = 0; i < thrown.length; i++) {
+            text.append(i == 0 ? " throws " : " ").append(thrown[i].getSimpleName());
+        }
+        return text.toString();
     }
 
     public static void main(String[] args) {
         Check check = new Check("the public face");
         Class<?> c = MarchTests.class;
+        check.sentence("public final class MarchTests");
         check.due("the class is public and final", Modifier.PUBLIC | Modifier.FINAL, c::getModifiers);
         TreeSet<String> seen = new TreeSet<>();
         TreeSet<String> names = new TreeSet<>();
@@ -49,6 +63,7 @@ final class FaceTest {
         for (Class<?> inside : c.getDeclaredClasses()) {
             check.due("class " + inside.getName() + " is static", true, () -> Modifier.isStatic(inside.getModifiers()));
         }
+        check.sentence("public static final int NONE = -1;");
         check.due("NONE", -1, () -> MarchTests.NONE);
         check.finish();
     }

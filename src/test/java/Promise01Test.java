@@ -86,13 +86,13 @@ final class Promise01Test {
 
     public static void main(String[] args) {
         Check check = new Check("promise 1 (a new object)");
-        asManyAsThereCanBe(check);
-        tooSmall(check);
-        tooLarge(check);
-        noFaults(check);
-        noMarch(check);
-        groundAndPort(check);
-        nothingYet(check);
+        check.hold(Promise01Test::asManyAsThereCanBe);
+        check.hold(Promise01Test::tooSmall);
+        check.hold(Promise01Test::tooLarge);
+        check.hold(Promise01Test::noFaults);
+        check.hold(Promise01Test::noMarch);
+        check.hold(Promise01Test::groundAndPort);
+        check.hold(Promise01Test::nothingYet);
         check.finish();
     }
 }

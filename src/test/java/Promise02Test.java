@@ -8,8 +8,8 @@ final class Promise02Test {
             check.due("unit('d' and " + more + ")", true, () -> x.unit('d' + more));
             check.due("a pause", 1, x::read);
         }
-        // 255 and -1 are one byte, and no sign comes of it.
-        for (int unit : new int[] {-1, 255, 128, -128, 0, Integer.MAX_VALUE, Integer.MIN_VALUE}) {
+        // All eight bits count: what is like d in seven of them is no d.
+        for (int unit : new int[] {-1, 255, 128, -128, 0, 'd' + 128, 'd' - 128, Integer.MAX_VALUE, Integer.MIN_VALUE}) {
             MarchTests x = new MarchTests(1, 1);
             x.unit('d');
             check.due("unit(" + unit + ")", true, () -> x.unit(unit));
@@ -43,9 +43,9 @@ final class Promise02Test {
 
     public static void main(String[] args) {
         Check check = new Check("promise 2 (unit)");
-        lowestEightBits(check);
-        roomFor400(check);
-        roomBehindAFault(check);
+        check.hold(Promise02Test::lowestEightBits);
+        check.hold(Promise02Test::roomFor400);
+        check.hold(Promise02Test::roomBehindAFault);
         check.finish();
     }
 }

@@ -198,18 +198,18 @@ final class Promise03Test {
 
     public static void main(String[] args) {
         Check check = new Check("promise 3 (read)");
-        elements(check);
-        oneOperationAtLeast(check);
-        oneSemicolon(check);
-        elementBehindSemicolon(check);
-        blanks(check);
-        oneElementAtLeast(check);
-        sixteenElements(check);
-        eightOperations(check);
-        placeOfTheFault(check);
-        emptyThen(check);
-        marchBefore(check);
-        noMarchBefore(check);
+        check.hold(Promise03Test::elements);
+        check.hold(Promise03Test::oneOperationAtLeast);
+        check.hold(Promise03Test::oneSemicolon);
+        check.hold(Promise03Test::elementBehindSemicolon);
+        check.hold(Promise03Test::blanks);
+        check.hold(Promise03Test::oneElementAtLeast);
+        check.hold(Promise03Test::sixteenElements);
+        check.hold(Promise03Test::eightOperations);
+        check.hold(Promise03Test::placeOfTheFault);
+        check.hold(Promise03Test::emptyThen);
+        check.hold(Promise03Test::marchBefore);
+        check.hold(Promise03Test::noMarchBefore);
         check.finish();
     }
 }

@@ -52,6 +52,9 @@ final class Promise05FaultsTest {
         // The cell's own value is seen by a bridge: cell 0 reads 0 as long as cell 1 has 0.
         check.run(1, 2, "^(w1,r1)", faults(4, 1, 0, 13, 0, 1), rows(0, 1, 0, 3));
         check.run(1, 2, "^(w1,w0,w1,r0)", faults(4, 1, 0, 13, 0, 1), rows());
+        // Flipped to 1 it keeps that, too: cell 2 is not pulled down.
+        check.run(3, 1, "^(w1);^(r1)", faults(10, 1, 0, 4, 1, 0, 13, 2, 1), rows());
+        check.run(3, 1, "^(w1,w0);^(w1);^(r1)", faults(11, 1, 0, 4, 1, 0, 13, 2, 1), rows());
         check.terms("9: x is the other one of w, if v is w");
         check.run(1, 2, "^(w1,r1,w1,r1,w1,r1)", faults(9, 0, 0), rows(0, 3, 0, 1));
         check.run(1, 1, "^(w0,r1)", faults(9, 0, 0), rows());
@@ -110,6 +113,10 @@ final class Promise05FaultsTest {
         check.run(1, 1, "^(w1,r1)", faults(1, 0, 0, 0, 0, 0), rows(0, 1, 0, 1));
         check.run(1, 1, "^(r1)", faults(8, 0, 0, 4, 0, 0), rows(0, 0, 0, 1));
         check.run(1, 1, "^(r1)", faults(4, 0, 0, 8, 0, 0), rows());
+        check.run(1, 1, "^(w0,r0)", faults(2, 0, 0, 9, 0, 0), rows(0, 1, 0, 1));
+        check.run(1, 1, "^(w0,r0)", faults(9, 0, 0, 2, 0, 0), rows());
+        check.run(1, 1, "^(w1,w1,r1)", faults(3, 0, 0, 9, 0, 0), rows(0, 2, 0, 1));
+        check.run(1, 1, "^(w1,w1,r1)", faults(9, 0, 0, 3, 0, 0), rows());
         // The fourth is the last to strike.
         check.run(1, 1, "^(w1,r1)", faults(1, 0, 0, 1, 0, 0, 1, 0, 0, 0, 0, 0), rows(0, 1, 0, 1));
         check.run(1, 1, "^(w1,r1)", faults(0, 0, 0, 0, 0, 0, 0, 0, 0, 1, 0, 0), rows());
@@ -120,12 +127,19 @@ final class Promise05FaultsTest {
         // Behind a word that was written, when all its bits are.
         check.run(1, 2, "^(w1,r1)", faults(12, 0, 1), rows(0, 1, 0, 1));
         check.run(1, 2, "^(w1,r1)", faults(12, 1, 0), rows(0, 1, 0, 2));
+        check.runOnGround(3, 1, 2, "^(w0,w1,r1)", faults(12, 0, 1), rows());
+        // Behind a word that was read, when all its bits are.
+        check.runOnGround(3, 1, 2, "^(w0,r0)", faults(7, 0, 0, 12, 1, 0), rows());
+        check.runOnGround(3, 1, 2, "^(w0,r0,r0)", faults(7, 0, 0, 12, 1, 0), rows(0, 2, 0, 3));
         // Behind a word that was read: its read sets cell 0, which clears cell 1.
         check.runOnGround(2, 2, 1, "^(w0);^(r0)", faults(12, 1, 0, 7, 0, 0), rows(1, 0, 1, 1));
         check.run(2, 1, "^(r0)", faults(7, 0, 0, 10, 1, 0, 12, 1, 0), rows());
         // Behind a pause: the cell that faded is stuck again.
         check.run(1, 1, "d^(r1)", faults(5, 0, 0, 1, 0, 0), rows());
         check.run(1, 1, "d^(r1)", faults(1, 0, 0, 5, 0, 0), rows());
+        // Cell 1 is 0 for a moment behind the write, and 1 again before the pause, which clears cell 0.
+        check.run(1, 3, "^(w1,r1)", faults(12, 0, 1, 1, 1, 0, 10, 1, 2), rows());
+        check.run(1, 3, "^(w1)d^(r1)", faults(12, 0, 1, 1, 1, 0, 10, 1, 2), rows(2, 0, 0, 1));
         check.terms("kind 12: V has 0 if A has 1");
         check.run(2, 1, "^(w1);^(r1)", faults(12, 0, 1), rows(1, 0, 0, 1));
         check.run(2, 1, "^(w0);^(r0)", faults(12, 0, 1), rows());
@@ -153,6 +167,7 @@ final class Promise05FaultsTest {
         check.run(2, 1, "^(w1)d^(r1)", faults(5, 0, 0, 11, 1, 0), rows(2, 0, 0, 1));
         // It fades before what comes behind the pause is looked at.
         check.run(2, 1, "*(w1)d;^(r0)", faults(12, 0, 1, 5, 1, 0), rows());
+        check.run(1, 3, "^(w1)d^(r1)", faults(12, 0, 1, 1, 1, 0, 10, 1, 2, 5, 1, 0), rows());
     }
 
     private static void atFirst(Check check) {
@@ -184,14 +199,14 @@ final class Promise05FaultsTest {
 
     public static void main(String[] args) {
         Check check = new Check("promise 5 (run)");
-        cellIsSet(check);
-        writing(check);
-        reading(check);
-        bridges(check);
-        inOrder(check);
-        behindEachWord(check);
-        inAPause(check);
-        atFirst(check);
+        check.hold(Promise05FaultsTest::cellIsSet);
+        check.hold(Promise05FaultsTest::writing);
+        check.hold(Promise05FaultsTest::reading);
+        check.hold(Promise05FaultsTest::bridges);
+        check.hold(Promise05FaultsTest::inOrder);
+        check.hold(Promise05FaultsTest::behindEachWord);
+        check.hold(Promise05FaultsTest::inAPause);
+        check.hold(Promise05FaultsTest::atFirst);
         check.finish();
     }
 }

@@ -149,13 +149,13 @@ final class Promise05Test {
 
     public static void main(String[] args) {
         Check check = new Check("promise 5 (run)");
-        orders(check);
-        directions(check);
-        someBits(check);
-        oneOrNone(check);
-        forgotten(check);
-        repairStays(check);
-        thrown(check);
+        check.hold(Promise05Test::orders);
+        check.hold(Promise05Test::directions);
+        check.hold(Promise05Test::someBits);
+        check.hold(Promise05Test::oneOrNone);
+        check.hold(Promise05Test::forgotten);
+        check.hold(Promise05Test::repairStays);
+        check.hold(Promise05Test::thrown);
         check.finish();
     }
 }

@@ -90,12 +90,12 @@ final class Promise06Test {
             for (int kind = 0; kind < 14; kind++) {
                 MarchTests x = Twin.used();
                 x.covered(kind, part);
-                check.due("behind covered(" + kind + ", " + part + ")", Twin.seen(Twin.used()), () -> Twin.seen(x));
+                Twin.isAsUsed(check, "behind covered(" + kind + ", " + part + ")", x);
             }
         }
         MarchTests full = Twin.full();
         full.covered(10, 0);
-        check.due("four faults", Twin.seen(Twin.full()), () -> Twin.seen(full));
+        Twin.isAsFull(check, "four faults", full);
     }
 
     private static void thrown(Check check) {
@@ -123,13 +123,13 @@ final class Promise06Test {
 
     public static void main(String[] args) {
         Check check = new Check("promise 6 (covered)");
-        byHand(check);
-        eachCell(check);
-        alone(check);
-        asThingsAre(check);
-        byOrder0(check);
-        stays(check);
-        thrown(check);
+        check.hold(Promise06Test::byHand);
+        check.hold(Promise06Test::eachCell);
+        check.hold(Promise06Test::alone);
+        check.hold(Promise06Test::asThingsAre);
+        check.hold(Promise06Test::byOrder0);
+        check.hold(Promise06Test::stays);
+        check.hold(Promise06Test::thrown);
         check.finish();
     }
 }

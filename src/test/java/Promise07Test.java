@@ -74,10 +74,10 @@ final class Promise07Test {
 
     public static void main(String[] args) {
         Check check = new Check("promise 7 (machine)");
-        oneForEach(check);
-        numbers(check);
-        longest(check);
-        thrown(check);
+        check.hold(Promise07Test::oneForEach);
+        check.hold(Promise07Test::numbers);
+        check.hold(Promise07Test::longest);
+        check.hold(Promise07Test::thrown);
         check.finish();
     }
 }

@@ -81,10 +81,10 @@ final class Promise08Test {
 
     public static void main(String[] args) {
         Check check = new Check("promise 8 (scramble)");
-        differentOnes(check);
-        exchanged(check);
-        behindTheOrder(check);
-        thrown(check);
+        check.hold(Promise08Test::differentOnes);
+        check.hold(Promise08Test::exchanged);
+        check.hold(Promise08Test::behindTheOrder);
+        check.hold(Promise08Test::thrown);
         check.finish();
     }
 }

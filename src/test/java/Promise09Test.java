@@ -66,7 +66,7 @@ final class Promise09Test {
             check.index(count + " failed: no more", () -> x.failing(kept, 0));
             check.index(count + " failed: no more", () -> x.failing(kept, 4));
         }
-        MarchTests full = failing(16, 24);
+        MarchTests full = failing(16, 100);
         check.due("the last one's element", 2, () -> full.failing(299, 0));
         check.due("the last one's number", 3, () -> full.failing(299, 1));
         check.due("the last one's word", 5, () -> full.failing(299, 2));
@@ -104,10 +104,10 @@ final class Promise09Test {
 
     public static void main(String[] args) {
         Check check = new Check("promise 9 (failing)");
-        parts(check);
-        howMany(check);
-        theFirst300(check);
-        thrown(check);
+        check.hold(Promise09Test::parts);
+        check.hold(Promise09Test::howMany);
+        check.hold(Promise09Test::theFirst300);
+        check.hold(Promise09Test::thrown);
         check.finish();
     }
 }

@@ -19,6 +19,11 @@ final class Promise10Test {
         check.due("no run yet", 0, () -> new MarchTests(4, 2).repair(8, 8, 9));
         check.due("no run yet, no spares and no steps", 0, () -> new MarchTests(4, 2).repair(0, 0, 0));
         check.due("no step is needed", 0, () -> Spoiled.memory(4, 2).repair(0, 0, 0));
+        MarchTests mended = Spoiled.memory(4, 2, 0, 31);
+        way(check, "two bits", mended, 8, 8, "c0c1");
+        mended.fault(MarchTests.NONE, 0, 0);
+        mended.run(0);
+        way(check, "nothing any more", mended, 0, 0, "");
     }
 
     private static void eachBit(Check check) {
@@ -117,6 +122,10 @@ final class Promise10Test {
         check.sentence("-2 there are more words with a failed bit than steps");
         MarchTests x = Spoiled.memory(4, 2, 0, 1, 30);
         check.due("two words, 2 steps", 2, () -> x.repair(8, 8, 2));
+        MarchTests often = Check.marching(2, 2, "^(r1,r1,r1)^(r1)");
+        often.run(0);
+        check.due("two words that failed often, 2 steps", 2, () -> often.repair(8, 8, 2));
+        check.due("two words that failed often, 1 step", -2, () -> often.repair(8, 8, 1));
         check.due("two words, 1 step", -2, () -> x.repair(8, 8, 1));
         check.due("two words, no step", -2, () -> x.repair(8, 8, 0));
         check.due("two words, no step and no spares", -2, () -> x.repair(0, 0, 0));
@@ -157,15 +166,15 @@ final class Promise10Test {
 
     public static void main(String[] args) {
         Check check = new Check("promise 10 (repair)");
-        nothingFailed(check);
-        eachBit(check);
-        kept(check);
-        least(check);
-        fewestRows(check);
-        leastRow(check);
-        noneWillDo(check);
-        steps(check);
-        thrown(check);
+        check.hold(Promise10Test::nothingFailed);
+        check.hold(Promise10Test::eachBit);
+        check.hold(Promise10Test::kept);
+        check.hold(Promise10Test::least);
+        check.hold(Promise10Test::fewestRows);
+        check.hold(Promise10Test::leastRow);
+        check.hold(Promise10Test::noneWillDo);
+        check.hold(Promise10Test::steps);
+        check.hold(Promise10Test::thrown);
         check.finish();
     }
 }

@@ -81,10 +81,10 @@ final class Promise11Test {
 
     public static void main(String[] args) {
         Check check = new Check("promise 11 (spare)");
-        rowsFirst(check);
-        what(check);
-        noneUsed(check);
-        thrown(check);
+        check.hold(Promise11Test::rowsFirst);
+        check.hold(Promise11Test::what);
+        check.hold(Promise11Test::noneUsed);
+        check.hold(Promise11Test::thrown);
         check.finish();
     }
 }

@@ -49,20 +49,24 @@ final class Promise12Test {
         check.terms("A call that throws changes nothing.");
         MarchTests x = spoiled();
         x.repair(8, 8, 2);
-        check.argument("behind a proved one", () -> x.repair(0, 0, -1));
+        check.argument("rows behind a proved one", () -> x.repair(9, 0, 2));
+        check.due("proved still", true, x::proved);
+        check.argument("steps behind a proved one", () -> x.repair(0, 0, -1));
         check.due("proved still", true, x::proved);
         x.repair(0, 0, 0);
-        check.argument("behind a -2", () -> x.repair(0, 9, 2));
+        check.argument("columns behind a -2", () -> x.repair(0, 9, 2));
+        check.due("not proved still", false, x::proved);
+        check.argument("steps behind a -2", () -> x.repair(0, 0, -1));
         check.due("not proved still", false, x::proved);
     }
 
     public static void main(String[] args) {
         Check check = new Check("promise 12 (proved)");
-        leastNumber(check);
-        thereIsNone(check);
-        notMinus2(check);
-        beforeTheFirst(check);
-        stays(check);
+        check.hold(Promise12Test::leastNumber);
+        check.hold(Promise12Test::thereIsNone);
+        check.hold(Promise12Test::notMinus2);
+        check.hold(Promise12Test::beforeTheFirst);
+        check.hold(Promise12Test::stays);
         check.finish();
     }
 }

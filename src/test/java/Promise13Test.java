@@ -72,9 +72,9 @@ final class Promise13Test {
 
     public static void main(String[] args) {
         Check check = new Check("promise 13 (fuse)");
-        wordsFirst(check);
-        latest(check);
-        thrown(check);
+        check.hold(Promise13Test::wordsFirst);
+        check.hold(Promise13Test::latest);
+        check.hold(Promise13Test::thrown);
         check.finish();
     }
 }

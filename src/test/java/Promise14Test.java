@@ -35,7 +35,8 @@ final class Promise14Test {
         reads(check, "the last of three", flipping(3, "^(r0)", 2), 0, Check.rows(0, 0, 2, 1));
         reads(check, "each r", flipping(3, "^(r0,r0)", 2), 0, Check.rows(0, 1, 2, 1));
         reads(check, "each r", flipping(2, "^(r0,r0,r0)", 1), 0, Check.rows(0, 0, 1, 1, 0, 2, 1, 1));
-        reads(check, "no w", flipping(2, "^(w1);^(w0)^(r0)", 1), 0, Check.rows(2, 0, 1, 1));
+        reads(check, "no w", flipping(2, "v(w0);v(r0)", 1), 0, Check.rows());
+        reads(check, "no w", flipping(2, "v(w1,w0)^(w1,w0);v(w0);v(r0)", 0), 0, Check.rows(3, 0, 0, 1));
         reads(check, "above is by places", flipping(3, "^(r0)", 0), 2, Check.rows(0, 0, 0, 1));
         reads(check, "above by bits", flipping(3, "^(r0)", 2), 1, Check.rows(0, 0, 2, 1));
         MarchTests scrambled = flipping(3, "^(r0)", 0);
@@ -96,12 +97,12 @@ final class Promise14Test {
 
     public static void main(String[] args) {
         Check check = new Check("promise 14 (port)");
-        howManyThereWere(check);
-        placeAbove(check);
-        aboveTheLast(check);
-        whicheverWay(check);
-        behindItsOwn(check);
-        thrown(check);
+        check.hold(Promise14Test::howManyThereWere);
+        check.hold(Promise14Test::placeAbove);
+        check.hold(Promise14Test::aboveTheLast);
+        check.hold(Promise14Test::whicheverWay);
+        check.hold(Promise14Test::behindItsOwn);
+        check.hold(Promise14Test::thrown);
         check.finish();
     }
 }

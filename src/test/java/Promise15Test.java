@@ -97,11 +97,11 @@ final class Promise15Test {
 
     public static void main(String[] args) {
         Check check = new Check("promise 15 (ground)");
-        otherOne(check);
-        kinds(check);
-        wordsNumber(check);
-        anotherOne(check);
-        thrown(check);
+        check.hold(Promise15Test::otherOne);
+        check.hold(Promise15Test::kinds);
+        check.hold(Promise15Test::wordsNumber);
+        check.hold(Promise15Test::anotherOne);
+        check.hold(Promise15Test::thrown);
         check.finish();
     }
 }
