@@ -232,7 +232,8 @@ final class Model {
     private List<Integer> places(int order) {
         List<Integer> places = new ArrayList<>();
         for (int p = 0; p < 16; p++) {
-            String back = new StringBuilder(String.format("%4s", Integer.toBinaryString(p)).replace(' ', '0')).reverse().toString();
+            String digits = String.format("%4s", Integer.toBinaryString(p)).replace(' ', '0');
+            String back = new StringBuilder(digits).reverse().toString();
             int word = order == 0 ? p : order == 1 ? Integer.parseInt(back, 2) : words - 1 - p;
             if (word >= 0 && word < words) {
                 places.add(scrambled.get(word));
@@ -393,7 +394,8 @@ final class Model {
         return true;
     }
 
-    private static int compare(List<Integer> rows, List<Integer> columns, List<Integer> bestRows, List<Integer> bestColumns) {
+    private static int compare(List<Integer> rows, List<Integer> columns,
+            List<Integer> bestRows, List<Integer> bestColumns) {
         int c = Integer.compare(rows.size() + columns.size(), bestRows.size() + bestColumns.size());
         c = c != 0 ? c : Integer.compare(rows.size(), bestRows.size());
         for (int i = 0; c == 0 && i < rows.size(); i++) {

@@ -140,8 +140,10 @@ final class Promise04Test {
         // The other cell is counted likewise: on ground 3, w0 makes bits 1 and 3 of a word rise, and no others.
         for (int bit = 0; bit < 4; bit++) {
             boolean rises = bit % 2 == 1;
-            check.runOnGround(3, 2, 4, "v(w0);^(r0)", Check.faults(10, 4, bit), rises ? Check.rows(1, 0, 1, 1) : Check.rows());
-            check.runOnGround(3, 2, 4, "^(w0);^(r0)", Check.faults(10, 3, 4 + bit), rises ? Check.rows(1, 0, 0, 8) : Check.rows());
+            int[][] ofWord1 = rises ? Check.rows(1, 0, 1, 1) : Check.rows();
+            int[][] ofWord0 = rises ? Check.rows(1, 0, 0, 8) : Check.rows();
+            check.runOnGround(3, 2, 4, "v(w0);^(r0)", Check.faults(10, 4, bit), ofWord1);
+            check.runOnGround(3, 2, 4, "^(w0);^(r0)", Check.faults(10, 3, 4 + bit), ofWord0);
         }
         check.run(2, 4, "^(w1);^(r1,w0)", Check.faults(11, 3, 4), Check.rows());
         check.run(2, 4, "^(w1);v(r1,w0)", Check.faults(11, 3, 4), Check.rows(1, 0, 0, 8));
