@@ -6,7 +6,8 @@ import java.util.TreeSet;
 
 /** The class has the document's face, and nothing else that is not private. */
 final class FaceTest {
-    private static final String[] METHODS = {
+    /** In the document's order. */
+    static final String[] METHODS = {
         "boolean unit(int)", "int read()",
         "int fault(int,int,int) throws IndexOutOfBoundsException IllegalStateException IllegalArgumentException",
         "int run(int) throws IllegalStateException IllegalArgumentException",
